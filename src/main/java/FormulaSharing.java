@@ -352,9 +352,13 @@ public final class FormulaSharing {
     }
 
     private int drawNumber() {
-        // Knuth's linear congruential generator; only its high bits are any good.
-        randomState = randomState * 6364136223846793005L + 1442695040888963407L;
-        return (int) ((randomState >>> 33) % MODULUS);
+        // SplitMix64: its mixing keeps objects of neighbouring noise from drawing kindred numbers.
+        randomState = randomState + 0x9E3779B97F4A7C15L;
+        long mixed = randomState;
+        mixed = (mixed ^ (mixed >>> 30)) * 0xBF58476D1CE4E5B9L;
+        mixed = (mixed ^ (mixed >>> 27)) * 0x94D049BB133111EBL;
+        mixed = mixed ^ (mixed >>> 31);
+        return (int) ((mixed >>> 1) % MODULUS);
     }
 
     private boolean isLeaf(int node) {
