@@ -335,12 +335,9 @@ public final class FormulaSharing {
                 below = below * (other - x + MODULUS) % MODULUS;
             }
         }
-        return above * inverse(below) % MODULUS;
-    }
-
-    private static int inverse(int number) {
-        // Fermat: the modulus is prime, so number to the power MODULUS - 1 is 1.
-        return power(number, MODULUS - 2);
+        // Fermat: the modulus is prime, so this power of a number other than 0 is its inverse.
+        int inverse = power(below, MODULUS - 2);
+        return above * inverse % MODULUS;
     }
 
     private static int power(int base, int exponent) {

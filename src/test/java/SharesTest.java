@@ -1,5 +1,7 @@
 import java.lang.reflect.Field;
 import java.util.Arrays;
+import java.util.HashSet;
+import java.util.Set;
 
 /**
  * That the secret really lies in the shares: what no answer can show, seen through the private fields.
@@ -11,6 +13,7 @@ public final class SharesTest {
     public static void main(String[] args) throws ReflectiveOperationException {
         openNeedsTheSetsSharesAlone();
         shareHidesTheSecret();
+        tooFewSharesTellNothing();
         refreshGivesNewNumbers();
         addGivesNewNumbers();
         scaleMultipliesShares();
@@ -34,14 +37,18 @@ public final class SharesTest {
         return (int[]) field.get(x);
     }
 
-    private static FormulaSharing threeOfFive(int noise, int secret) {
+    private static FormulaSharing ofFive(int k, int noise, int secret) {
         FormulaSharing x = new FormulaSharing(noise);
         for (int party = 0; party < 5; party++) {
             x.leaf(party);
         }
-        x.gate(3, 5);
+        x.gate(k, 5);
         x.share(secret);
         return x;
+    }
+
+    private static FormulaSharing threeOfFive(int noise, int secret) {
+        return ofFive(3, noise, secret);
     }
 
     private static void openNeedsTheSetsSharesAlone() throws ReflectiveOperationException {
@@ -63,25 +70,43 @@ public final class SharesTest {
         }
     }
 
-    /** Over many noises each share takes most of the 251 values, and no other field holds the secret. */
+    /** Over many noises a single share takes every value. */
     private static void shareHidesTheSecret() throws ReflectiveOperationException {
-        boolean[][] seen = new boolean[5][251];
-        for (int noise = 0; noise < 5000; noise++) {
-            int[] shares = ints(threeOfFive(noise, 7), "shares");
-            for (int party = 0; party < 5; party++) {
-                check(shares[party] >= 0 && shares[party] < 251, "a share is a number from 0 to 250");
-                seen[party][shares[party]] = true;
+        for (int k = 2; k <= 5; k++) {
+            boolean[][] seen = new boolean[5][251];
+            for (int noise = 0; noise < 5000; noise++) {
+                int[] shares = ints(ofFive(k, noise, 7), "shares");
+                for (int party = 0; party < 5; party++) {
+                    check(shares[party] >= 0 && shares[party] < 251, "a share is a number from 0 to 250");
+                    seen[party][shares[party]] = true;
+                }
             }
-        }
-        for (boolean[] values : seen) {
-            int count = 0;
-            for (boolean value : values) {
-                count += value ? 1 : 0;
+            for (boolean[] values : seen) {
+                int count = 0;
+                for (boolean value : values) {
+                    count += value ? 1 : 0;
+                }
+                check(count == 251, "a share of " + k + " of 5 can be any number, not just " + count);
             }
-            check(count == 251, "every share can be any number, not " + count + " of them");
         }
         int[] dealt = ints(threeOfFive(3, 7), "dealt");
         check(Arrays.equals(dealt, new int[24]), "nothing of the dealing is left over");
+    }
+
+    /**
+     * One share fewer than the threshold asks for must be free to be anything: with one random number too few
+     * there would be 251 times fewer combinations, and many of 5000 would come again (above 4 of 5 too few do).
+     */
+    private static void tooFewSharesTellNothing() throws ReflectiveOperationException {
+        for (int k = 3; k <= 4; k++) {
+            Set<String> combinations = new HashSet<>();
+            for (int noise = 0; noise < 5000; noise++) {
+                int[] shares = ints(ofFive(k, noise, 7), "shares");
+                combinations.add(Arrays.toString(Arrays.copyOf(shares, k - 1)));
+            }
+            int least = k == 3 ? 4500 : 4980;
+            check(combinations.size() >= least, combinations.size() + " combinations of " + (k - 1) + " shares");
+        }
     }
 
     private static void refreshGivesNewNumbers() throws ReflectiveOperationException {
@@ -98,6 +123,12 @@ public final class SharesTest {
         x.add(0);
         check(!Arrays.equals(before, ints(x, "shares")), "add deals shares of what is added");
         check(x.open(7) == 7 && x.open(28) == 7, "add(0) keeps the secret");
+        for (int i = 0; i < 100; i++) {
+            x.add(250);
+        }
+        for (int share : ints(x, "shares")) {
+            check(share >= 0 && share < 251, "a share stays a number from 0 to 250");
+        }
     }
 
     private static void scaleMultipliesShares() throws ReflectiveOperationException {
