@@ -109,12 +109,26 @@ public final class SharesTest {
         }
     }
 
+    /** Over many noises every single share is moved by every number. */
     private static void refreshGivesNewNumbers() throws ReflectiveOperationException {
-        FormulaSharing x = threeOfFive(21, 7);
-        int[] before = ints(x, "shares").clone();
-        x.refresh();
-        check(!Arrays.equals(before, ints(x, "shares")), "refresh changes the shares");
-        check(x.open(7) == 7 && x.open(28) == 7, "refresh keeps the secret");
+        boolean[][] seen = new boolean[5][251];
+        for (int noise = 0; noise < 5000; noise++) {
+            FormulaSharing x = threeOfFive(noise, 7);
+            int[] before = ints(x, "shares").clone();
+            x.refresh();
+            int[] after = ints(x, "shares");
+            for (int party = 0; party < 5; party++) {
+                seen[party][(after[party] - before[party] + 251) % 251] = true;
+            }
+            check(x.open(7) == 7 && x.open(28) == 7, "refresh keeps the secret");
+        }
+        for (boolean[] moves : seen) {
+            int count = 0;
+            for (boolean move : moves) {
+                count += move ? 1 : 0;
+            }
+            check(count == 251, "refresh gives all shares new numbers, not just by " + count + " moves");
+        }
     }
 
     private static void addGivesNewNumbers() throws ReflectiveOperationException {
