@@ -143,6 +143,32 @@ public final class ModelTest {
                 oneCall(run, call, random, parties, x, model);
             }
         }
+        pastTheLastCall(random, x);
+    }
+
+    /** What is answered now is free; but no call may ever throw. */
+    private static void pastTheLastCall(Random random, FormulaSharing x) {
+        for (int call = 0; call < CALLS; call++) {
+            int a = random.nextBoolean() ? random.nextInt(8) : random.nextInt();
+            int b = random.nextBoolean() ? random.nextInt(6) : random.nextInt();
+            switch (random.nextInt(12)) {
+                case 0 -> x.leaf(a);
+                case 1 -> x.gate(a, b);
+                case 2 -> x.gate(1, b);
+                case 3 -> x.share(a);
+                case 4 -> x.add(a);
+                case 5 -> x.scale(a);
+                case 6 -> x.refresh();
+                case 7 -> x.open(a);
+                case 8 -> x.minimal(a);
+                case 9 -> x.clear();
+                case 10 -> x.qualified();
+                default -> {
+                    x.fewest();
+                    x.needed();
+                }
+            }
+        }
     }
 
     private static void oneCall(int run, int call, Random random, int parties, FormulaSharing x, Model model) {
